@@ -9,8 +9,10 @@ public final class DoneTest {
         swap();
         throwIt();
         home();
+        daysAreFull();
         takeBack();
         drift();
+        driftByWays();
         undo();
         refusalsChangeNothing();
         check.end();
@@ -112,6 +114,20 @@ public final class DoneTest {
         check.due("12: a day passes", empty.told(4), 1);
     }
 
+    /** That many days take more calls than an object is promised for; the bound must hold nonetheless. */
+    private static void daysAreFull() {
+        SatchelSins x = Check.schoolOf("b5;c1 1;d0 1;");
+        for (int i = 0; i <= 9000; i++) {
+            check.due("12: day " + i, x.home(), 0);
+        }
+        check.due("12: days", x.told(4), 9001);
+        check.due("12: days are above 9000", x.home(), Check.FULL);
+        check.due("14: days are above 9000", x.drift(1), Check.FULL);
+        check.due("14: outside ahead of full", x.drift(61), Check.OUTSIDE);
+        x.undo();
+        check.due("14: days are not above 9000", x.drift(1) >= 9000 ? 1 : 0, 1);
+    }
+
     private static void takeBack() {
         SatchelSins x = Check.schoolOf(HILL);
         check.due("13: not done", x.takeBack(0), Check.NOT);
@@ -148,6 +164,51 @@ public final class DoneTest {
         alone.seed(1);
         alone.drift(60);
         check.due("14: the next of one child is itself", alone.deed(0, 2) == 3 ? 0 : alone.deed(0, 3), 0);
+    }
+
+    /** With one deed the draw of deeds is 0 always, so the second draw of a seed tells what comes. */
+    private static void driftByWays() {
+        SatchelSins x = Check.schoolOf("b5;c1 1;c9 1;c9 1;d1 3;");
+        x.seed(seedFor(2));
+        check.due("14: not carried, not done", x.drift(1), 0);
+        check.due("14: nowhere", x.deed(0, 3), Check.NONE);
+        x.seed(seedFor(1));
+        x.drift(1);
+        check.due("14: not thrown, not done", x.deed(0, 2), 0);
+        x.seed(seedFor(0));
+        x.drift(1);
+        check.due("14: done by its child", x.deed(0, 3), 1);
+        int[] next = {2, 0, 1};
+        for (int i = 0; i < next.length; i++) {
+            x.seed(seedFor(2));
+            x.drift(1);
+            check.due("14: carried by the next", x.deed(0, 3), next[i]);
+        }
+        x.carry(0, 0);
+        x.seed(seedFor(3));
+        check.due("14: home", x.drift(1), 1);
+        check.due("14: on the table", x.child(0, 5), 1);
+        check.due("14: lamed", x.child(0, 6), 1);
+        x.seed(seedFor(0));
+        x.drift(1);
+        check.due("14: it is done already", x.deed(0, 2), 3);
+        x.undo();
+        x.undo();
+        x.seed(seedFor(1));
+        x.drift(1);
+        check.due("14: thrown", x.deed(0, 2) * 100 + x.told(5), 203);
+        check.due("14: steps to undo", x.told(13), 8);
+    }
+
+    private static int seedFor(int way) {
+        for (int seed = 0; seed < 1000; seed++) {
+            long once = (seed * 1103515245L + 12345L) % 2147483648L;
+            long twice = (once * 1103515245L + 12345L) % 2147483648L;
+            if (twice / 65536 % 4 == way) {
+                return seed;
+            }
+        }
+        throw new IllegalStateException("no seed for " + way);
     }
 
     private static void undo() {

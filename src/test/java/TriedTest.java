@@ -6,6 +6,7 @@ public final class TriedTest {
     public static void main(String[] args) {
         loads();
         fair();
+        loadsOfAnotherSchool();
         lighter();
         weighs();
         handed();
@@ -118,6 +119,19 @@ public final class TriedTest {
         // With 7: the 5 and two of four: each of those halves the six sets.
         check.due("19: how many", ones.weighs(7, 0), 6);
         check.due("19: look for", ones.weighs(7, 3), 1);
+    }
+
+    /** The same deeds in the same satchels of another school are other loads. */
+    private static void loadsOfAnotherSchool() {
+        SatchelSins x = Check.schoolOf("b0;c9 1;c9 1;d0 5;d0 5;");
+        Check.doAll(x);
+        check.due("16: one moved", x.loads(Check.NONE), 1);
+        check.due("17: how great", x.fair(Check.NONE), 5);
+        Check.tell(x, "b0;c19 1;c9 1;d0 6;d0 5;");
+        Check.doAll(x);
+        check.due("16: none moved", x.loads(Check.NONE), 0);
+        check.due("16: where they are", x.loads(1), 0);
+        check.due("17: how great", x.fair(Check.NONE), 6);
     }
 
     private static void handed() {
