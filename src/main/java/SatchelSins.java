@@ -528,6 +528,8 @@ public final class SatchelSins {
             fault = 0;
             place = NONE;
             roll.wipe();
+            // Blanks alone tell nothing, as an empty text does, so a clause begins only where a letter stands.
+            skipBlanks();
             // A clause without a fault takes letters, so there are fewer clauses than letters.
             for (int clause = 0; clause < length && at < length && fault == 0; clause++) {
                 readClause();
@@ -541,7 +543,6 @@ public final class SatchelSins {
         }
 
         private void readClause() {
-            skipBlanks();
             int word = letter();
             if (!roll.isTold && word != 'b') {
                 fail(CANNOT_STAND, at);

@@ -100,7 +100,7 @@ final class Model {
         text = new StringBuilder();
         List<int[]> kids = new ArrayList<>();
         List<int[]> dids = new ArrayList<>();
-        int[] fault = t.isEmpty() ? null : readAll(t, kids, dids);
+        int[] fault = t.replace(" ", "").isEmpty() ? null : readAll(t, kids, dids);
         if (fault != null && fault[0] > 0) {
             faultAt = fault[1];
             return -10 - fault[0];

@@ -63,6 +63,9 @@ public final class ModelTest {
     }
 
     private static String spoilt(String text) {
+        if (below(20) == 0) {
+            return " ".repeat(below(4));
+        }
         String signs = "bcdh; 0123456789xB";
         StringBuilder made = new StringBuilder(text);
         for (int i = below(4); i > 0; i--) {

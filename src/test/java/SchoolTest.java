@@ -14,7 +14,9 @@ public final class SchoolTest {
         endOfText();
         faultChangesNothingElse();
         newSchoolBeginsAnew();
-        emptyTextEndsSchool();
+        textThatTellsNothingEndsSchool("");
+        textThatTellsNothingEndsSchool("   ");
+        otherSignsAreNoBlanks();
         told();
         child();
         deed();
@@ -60,6 +62,8 @@ public final class SchoolTest {
 
     private static void schoolsWithoutFault() {
         fine("", 0);
+        fine(" ", 0);
+        fine(" ".repeat(240), 0);
         fine("b0;", 0);
         fine("b999;", 0);
         fine("b000;", 0);
@@ -159,7 +163,7 @@ public final class SchoolTest {
         faulty("b5;c", 1, 4);
         faulty("b5;c1", 1, 5);
         faulty("b5;c1 1", 1, 7);
-        faulty("   ", 1, 3);
+        faulty("  b", 1, 3);
     }
 
     private static void faultChangesNothingElse() {
@@ -212,19 +216,34 @@ public final class SchoolTest {
         check.due("3: the seed stays", x.seed(0), 77);
     }
 
-    private static void emptyTextEndsSchool() {
+    private static void textThatTellsNothingEndsSchool(String text) {
+        String of = " of '" + text + "'";
         SatchelSins x = Check.schoolOf(HILL);
         x.doIt(0);
         x.keep(0);
+        x.see(0, 0, true);
+        x.write(0, 5);
+        x.seed(77);
         check.due("3: faulty", Check.tell(x, "x"), -11);
         check.due("4: fault", x.fault(), 0);
-        check.due("3: empty", x.school(), 0);
-        check.due("4: no fault", x.fault(), Check.NONE);
-        check.due("3: no brook", x.told(0), 0);
-        check.due("3: no child", x.child(0, 0), Check.UNKNOWN);
-        check.due("3: no deed", x.doIt(0), Check.UNKNOWN);
-        check.due("3: no home", x.home(), Check.NOT);
-        check.due("3: no image", x.goBack(0), Check.NOT);
+        check.due("3: school" + of, Check.tell(x, text), 0);
+        check.due("4: fault" + of, x.fault(), Check.NONE);
+        for (int what = 0; what <= 13; what++) {
+            check.due("3: told(" + what + ")" + of, x.told(what), what == 10 ? Check.NONE : 0);
+        }
+        check.due("3: child" + of, x.child(0, 0), Check.UNKNOWN);
+        check.due("3: doIt" + of, x.doIt(0), Check.UNKNOWN);
+        check.due("3: home" + of, x.home(), Check.NOT);
+        check.due("3: drift" + of, x.drift(1), Check.NOT);
+        check.due("3: goBack" + of, x.goBack(0), Check.NOT);
+        check.due("3: seed" + of, x.seed(0), 77);
+    }
+
+    private static void otherSignsAreNoBlanks() {
+        for (int sign : new int[] {0, 9, 10, 13, 31, 33, 160, 255}) {
+            faulty("" + (char) sign, 1, 0);
+            faulty("  " + (char) sign + " ", 1, 2);
+        }
     }
 
     private static void told() {
