@@ -936,6 +936,7 @@ public final class SatchelSins {
         private final int[] answer = new int[MOST_DEEDS];
         private final int[] loadNow = new int[MOST_CHILDREN];
         private int best;
+        private int enough;
         private boolean isSolved;
 
         Packing(Roll roll, Day day, boolean isFair) {
@@ -970,10 +971,25 @@ public final class SatchelSins {
             Arrays.fill(answer, NONE);
             Arrays.fill(loadNow, 0);
             best = TOO_MUCH;
+            enough = isFair ? leastGreatestLoad() : 0;
             isSolved = true;
             if (!isFair || roll.children > 0) {
                 place(0, 0);
             }
+        }
+
+        /** No greatest load can be below the heaviest deed, nor below what each has if all have alike. */
+        private int leastGreatestLoad() {
+            int heaviest = 0;
+            int all = 0;
+            for (int d = 0; d < roll.deeds; d++) {
+                if (holders[d] != NONE) {
+                    heaviest = Math.max(heaviest, roll.weight[d]);
+                    all += roll.weight[d];
+                }
+            }
+            int children = Math.max(1, roll.children);
+            return Math.max(heaviest, (all + children - 1) / children);
         }
 
         private boolean haveHoldersChanged() {
@@ -991,7 +1007,7 @@ public final class SatchelSins {
 
         /** Goes through the ways in their order, so that of like ones the first is kept. */
         private void place(int d, int cost) {
-            if (cost >= best) {
+            if (cost >= best || best <= enough) {
                 return;
             }
             if (d < 0 || d >= roll.deeds || d >= MOST_DEEDS) {

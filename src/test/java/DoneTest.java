@@ -114,18 +114,41 @@ public final class DoneTest {
         check.due("12: a day passes", empty.told(4), 1);
     }
 
-    /** That many days take more calls than an object is promised for; the bound must hold nonetheless. */
+    /**
+     * That many days take more calls than an object is promised for (a seed and drifts bring 18 days a call at most);
+     * the bound must hold nonetheless.
+     */
     private static void daysAreFull() {
         SatchelSins x = Check.schoolOf("b5;c1 1;d0 1;");
         for (int i = 0; i <= 9000; i++) {
             check.due("12: day " + i, x.home(), 0);
         }
+        int seed = seedFor(3);
+        x.seed(seed);
         check.due("12: days", x.told(4), 9001);
         check.due("12: days are above 9000", x.home(), Check.FULL);
         check.due("14: days are above 9000", x.drift(1), Check.FULL);
+        check.due("14: days are above 9000", x.drift(60), Check.FULL);
         check.due("14: outside ahead of full", x.drift(61), Check.OUTSIDE);
+        check.due("14: outside ahead of full", x.drift(0), Check.OUTSIDE);
+        check.due("12, 14: refused, no day", x.told(4), 9001);
+        check.due("12, 14: refused, nothing to undo", x.told(13), 20);
+        check.due("14: refused, no draw", x.seed(seed), seed);
+        check.due("8: deeds are done on that day", x.doIt(0), 1);
+        check.due("15: undo doIt()", x.undo(), 19);
+        check.due("15: undo home()", x.undo(), 18);
+        check.due("14: days are 9000", x.drift(1), 9001);
+        check.due("14: days are above 9000", x.drift(1), Check.FULL);
+        check.due("15: undo drift()", x.undo(), 18);
+        check.due("12: days are 9000", x.home(), 0);
+        check.due("12: days are above 9000", x.home(), Check.FULL);
         x.undo();
-        check.due("14: days are not above 9000", x.drift(1) >= 9000 ? 1 : 0, 1);
+        x.seed(0);
+        // From 0 on there are 14 ways home among 60.
+        check.due("14: a drift goes on over 9000", x.drift(60), 9014);
+        check.due("14: days are above 9000", x.drift(1), Check.FULL);
+        check.due("3: a new school begins at day 0", Check.tell(x, "b5;"), 0);
+        check.due("12: home()", x.home(), 0);
     }
 
     private static void takeBack() {
