@@ -43,6 +43,11 @@ final class DoneEdges {
         e.run(beside + "doIt 0, throwIt 0, deed 0 2 = 2, deed 0 3 = NONE, doIt 0 = NOT, carry 0 1 = NOT, carry 0 0 = NOT, swap 0 2 = NOT, swap 2 0 = NOT, throwIt 0 = NOT, takeBack 0 = NOT");
         e.run("tell <" + HILL + ">, doIt 0, home, doIt 2, deed 0 2 = 3, deed 0 3 = 0, doIt 0 = NOT, carry 0 1 = NOT, carry 0 0 = NOT, swap 0 2 = NOT, swap 2 0 = NOT, throwIt 0 = NOT, takeBack 0 = 0");
         e.run("tell <" + MOST + ">, deed 0 2 = 0, deed 1 2 = 0, deed 2 2 = 0, deed 3 2 = 0, deed 4 2 = 0, deed 5 2 = 0, deed 6 2 = 0, deed 6 3 = NONE");
+        // Seven deeds and no eighth, wherever the first one is.
+        for (int c = 1; c < 5; c++) {
+            e.run("tell <" + MOST + ">, doIt 0, carry 0 " + c + ", child 0 4 = 0, child 0 5 = 0, see 0 0 false, hold = 1, doIt 6, lighter NONE = 0",
+                "home, deed 0 3 = " + c + ", child 0 4 = 0, child 0 5 = 0, hold = 1");
+        }
         e.says("section 2", "DONE: it is in the satchel of its CHILD.", 7, 8);
         e.run("tell <" + HILL + ">, doIt 5, deed 5 2 = 1, deed 5 3 = 2, carry 5 0, home, takeBack 5 = 0, doIt 5 = 3, deed 5 3 = 2");
     }

@@ -73,6 +73,10 @@ final class TriedEdges {
         e.run("tell <b0;c1 1;d0 99;d0 99;>, doIt 0, doIt 1, fair NONE = 198, fair 0 = 0, fair 1 = 0");
         e.run("tell <b0;c1 1;c99 1;d1 50;d1 50;>, doIt 0, doIt 1, fair NONE = 50, fair 0 = 0, fair 1 = 1");
         e.run("tell <b0;c9 1;c9 1;c9 1;d2 5;>, doIt 0, fair NONE = 5, fair 0 = 0");
+        // All have alike; one has one more; no less than the heaviest.
+        e.run("tell <b0;c9 1;c9 1;d0 1;d0 2;d0 2;d0 1;>, doIt 0, doIt 1, doIt 2, doIt 3, fair NONE = 3, fair 0 = 0, fair 1 = 0, fair 2 = 1, fair 3 = 1");
+        e.run("tell <b0;c9 1;c9 1;d0 1;d0 2;d0 2;d0 2;>, doIt 0, doIt 1, doIt 2, doIt 3, fair NONE = 4, fair 0 = 0, fair 1 = 0, fair 2 = 1, fair 3 = 1");
+        e.run("tell <b0;c9 1;c9 1;d0 1;d0 2;d0 2;d0 6;>, doIt 0, doIt 1, doIt 2, doIt 3, fair NONE = 6, fair 0 = 0, fair 1 = 0, fair 2 = 0, fair 3 = 1");
         e.run("tell <" + MOST + ">," + ALL + "fair NONE = 198, fair 0 = 0, fair 1 = 0, fair 2 = 1, fair 3 = 1, fair 4 = 2, fair 5 = 2, fair 6 = 3, throwIt 0, throwIt 6, fair NONE = 99, fair 0 = NONE, fair 1 = 0, fair 5 = 4");
         e.run("tell <b0;c1 1;d0 99;d0 99;d0 99;d0 99;d0 99;d0 99;d0 99;>," + ALL + "fair NONE = 693, fair 6 = 0, loads NONE = NONE");
     }
@@ -98,6 +102,8 @@ final class TriedEdges {
         e.run("tell <b0;c10 1;c10 1;d0 4;d1 6;d1 6;>, doIt 0, doIt 1, doIt 2, told 7 = 2, lighter NONE = 2, lighter 0 = 1, lighter 1 = 2");
         // Both are lamed: no swap helps both.
         e.run("tell <b0;c5 1;c5 1;d0 6;d1 7;>, doIt 0, doIt 1, told 7 = 3, lighter NONE = 0");
+        // Whose satchels they are in counts, not whose they were first.
+        e.run("tell <b0;c10 1;c10 1;c10 1;d0 8;d0 8;d1 2;>, doIt 0, doIt 1, doIt 2, carry 0 2, carry 1 2, carry 2 0, told 7 = 4, lighter NONE = 2, lighter 0 = 2, lighter 1 = 12");
         // A third child, lamed or not, counts for nothing.
         e.run("tell <b0;c10 1;c10 1;c1 1;d0 6;d1 4;d2 2;>, doIt 0, doIt 1, doIt 2, told 7 = 4, lighter NONE = 0");
         e.run("tell <b0;c9 1;c10 1;c1 1;d0 10;d1 4;d2 2;>, doIt 0, doIt 1, doIt 2, told 7 = 5, lighter NONE = 1, lighter 0 = 1");
