@@ -115,7 +115,7 @@ public final class DoneTest {
     }
 
     /**
-     * That many days take more calls than an object is promised for (a seed and drifts bring 18 days a call at most);
+     * That many days take more calls than an object is promised for (the best seeds and drifts come to 8964 days);
      * the bound must hold nonetheless.
      */
     private static void daysAreFull() {
