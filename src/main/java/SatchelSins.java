@@ -713,8 +713,9 @@ public final class SatchelSins {
             return row[PLACE + d];
         }
 
+        /** Reads the row itself: it stands at the end of the deepest chains of calls. */
         boolean isInSatchel(int d) {
-            return stageOf(d) == IN_SATCHEL;
+            return row[STAGE + d] == IN_SATCHEL;
         }
 
         int loadOf(int c) {

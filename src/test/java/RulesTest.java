@@ -4,9 +4,14 @@ import java.lang.reflect.Method;
 import java.lang.reflect.Modifier;
 import java.nio.file.Files;
 import java.nio.file.Path;
+import java.util.ArrayList;
 import java.util.Arrays;
 import java.util.List;
+import java.util.Map;
+import java.util.TreeMap;
 import java.util.TreeSet;
+import java.util.regex.Matcher;
+import java.util.regex.Pattern;
 
 /** The face of the class, and what of LANGUAGE.md can be looked at by reflection and in the text. */
 public final class RulesTest {
@@ -20,6 +25,8 @@ public final class RulesTest {
         constants();
         membersOfClasses();
         words();
+        lengthsAndDepths();
+        roomOfCalls();
         check.end();
     }
 
@@ -56,7 +63,7 @@ public final class RulesTest {
 
     private static List<Class<?>> allClasses() {
         TreeSet<String> order = new TreeSet<>();
-        java.util.ArrayList<Class<?>> all = new java.util.ArrayList<>();
+        List<Class<?>> all = new ArrayList<>();
         all.add(SatchelSins.class);
         for (Class<?> inside : SatchelSins.class.getDeclaredClasses()) {
             if (order.add(inside.getName())) {
@@ -95,8 +102,8 @@ public final class RulesTest {
     }
 
     private static void words() throws IOException {
-        String text = Files.readString(Path.of("src/main/java/SatchelSins.java"));
-        String code = text.replaceAll("(?s)/\\*.*?\\*/", " ").replaceAll("//[^\n]*", " ");
+        String text = program();
+        String code = withoutComments(text);
         for (String word : "throw try catch synchronized assert package protected float double native volatile transient".split(" ")) {
             check.isTrue("the word " + word, !code.matches("(?s).*\\b" + word + "\\b.*"));
         }
@@ -110,6 +117,63 @@ public final class RulesTest {
             if (text.charAt(i) > 126) {
                 check.isTrue("a sign above 126 at " + i, false);
             }
+        }
+    }
+
+    private static String program() throws IOException {
+        return Files.readString(Path.of("src/main/java/SatchelSins.java"));
+    }
+
+    private static String withoutComments(String text) {
+        return text.replaceAll("(?s)/\\*.*?\\*/", " ").replaceAll("//[^\n]*", " ");
+    }
+
+    /** Rule 11. Methods are told apart by their names alone, so a depth that is found is no less than the true one. */
+    private static void lengthsAndDepths() throws IOException {
+        Map<String, String> bodies = bodies(withoutComments(program()));
+        check.isTrue("methods are found", bodies.size() > 80 && bodies.keySet().containsAll(List.of("drift", "place", "firstWrong")));
+        for (String name : bodies.keySet()) {
+            check.isTrue(name + " is too long", bodies.get(name).lines().count() <= 60 * Math.max(1, methodsNamed(name)));
+            check.isTrue(name + " goes " + depth(name, bodies, new ArrayList<>()) + " deep", depth(name, bodies, new ArrayList<>()) <= 8);
+        }
+    }
+
+    private static int methodsNamed(String name) {
+        int count = 0;
+        for (Class<?> type : allClasses()) {
+            for (Method method : type.getDeclaredMethods()) {
+                count += method.getName().equals(name) ? 1 : 0;
+            }
+        }
+        return count;
+    }
+
+    private static Map<String, String> bodies(String code) {
+        Map<String, String> bodies = new TreeMap<>();
+        Matcher head = Pattern.compile("(?m)^( +)(?:public |private )?(?:int|void|boolean) (\\w+)\\([^)]*\\) \\{\n").matcher(code);
+        while (head.find()) {
+            int end = code.indexOf("\n" + head.group(1) + "}\n", head.end() - 1);
+            bodies.merge(head.group(2), code.substring(head.end(), Math.max(head.end(), end)), String::concat);
+        }
+        return bodies;
+    }
+
+    private static int depth(String name, Map<String, String> bodies, List<String> open) {
+        int deepest = 0;
+        open.add(name);
+        for (String called : bodies.keySet()) {
+            if (!open.contains(called) && bodies.get(name).matches("(?s).*\\b" + called + "\\(.*")) {
+                deepest = Math.max(deepest, depth(called, bodies, open));
+            }
+        }
+        open.remove(name);
+        return 1 + deepest;
+    }
+
+    /** Everything is made with the object: no call takes of the room that all calls share. */
+    private static void roomOfCalls() throws IOException {
+        for (String body : bodies(withoutComments(program())).values()) {
+            check.isTrue("a method makes an object: " + body, !body.matches("(?s).*\\bnew\\b.*"));
         }
     }
 }
